@@ -382,18 +382,18 @@ public final class ReadlineEditor {
     }
     boolean forward = start == cursor;
     pushUndo();
-    keepKill(start, end - start, forward);
+    // A kill that chains to none grows an empty entry, so that both cases grow one.
+    if (last != LAST_KILL) {
+      addEmptyKill();
+    }
+    growKill(start, end - start, forward);
     closeGap(start, end - start);
     cursor = start;
     return taken(LAST_KILL);
   }
 
-  // A kill that chains to none grows an empty entry, so both cases grow one alike.
   // Chained kills take disjoint chars of one buffer: the entry stays within its slot.
-  private void keepKill(int start, int count, boolean forward) {
-    if (last != LAST_KILL) {
-      addEmptyKill();
-    }
+  private void growKill(int start, int count, boolean forward) {
     int slot = ringSlot(0);
     int base = slot * MAX_LINE;
     int size = ringLengths[slot];
@@ -404,7 +404,7 @@ public final class ReadlineEditor {
       }
       at = base;
     }
-    copyChars(buffer, start, ring, at, count);
+    copyCells(buffer, start, ring, at, count);
     ringLengths[slot] = size + count;
   }
 
@@ -450,7 +450,7 @@ public final class ReadlineEditor {
     int slot = ringSlot(index);
     int size = ringLengths[slot];
     openGap(cursor, size);
-    copyChars(ring, slot * MAX_LINE, buffer, cursor, size);
+    copyCells(ring, slot * MAX_LINE, buffer, cursor, size);
     cursor += size;
     yankIndex = index;
   }
@@ -461,7 +461,7 @@ public final class ReadlineEditor {
     }
     int slot = undoSlot(0);
     length = undoLengths[slot];
-    copyChars(undoTexts, slot * MAX_LINE, buffer, 0, length);
+    copyCells(undoTexts, slot * MAX_LINE, buffer, 0, length);
     cursor = undoCursors[slot];
     undoDepth--;
     return taken(LAST_OTHER);
@@ -473,7 +473,7 @@ public final class ReadlineEditor {
     }
     if (nav == historyCount) {
       draftLength = length;
-      copyChars(buffer, 0, draft, 0, length);
+      copyCells(buffer, 0, draft, 0, length);
     }
     nav--;
     loadHistory(nav);
@@ -535,14 +535,14 @@ public final class ReadlineEditor {
   // A line from elsewhere ends the edits of the one before, so undo must not reach them.
   private void loadHistory(int entry) {
     length = historyLengths[entry];
-    copyChars(history, entry * MAX_LINE, buffer, 0, length);
+    copyCells(history, entry * MAX_LINE, buffer, 0, length);
     cursor = length;
     undoDepth = 0;
   }
 
   private void loadDraft() {
     length = draftLength;
-    copyChars(draft, 0, buffer, 0, length);
+    copyCells(draft, 0, buffer, 0, length);
     cursor = length;
     draftLength = 0;
     undoDepth = 0;
@@ -577,7 +577,7 @@ public final class ReadlineEditor {
       dropOldest(history, historyLengths, historyCount);
       historyCount--;
     }
-    copyChars(buffer, 0, history, historyCount * MAX_LINE, length);
+    copyCells(buffer, 0, history, historyCount * MAX_LINE, length);
     historyLengths[historyCount] = length;
     historyCount++;
   }
@@ -585,10 +585,10 @@ public final class ReadlineEditor {
   private void pushUndo() {
     if (undoDepth == UNDO_CAP) {
       dropOldest(undoTexts, undoLengths, undoDepth);
-      copyChars(undoCursors, 1, undoCursors, 0, undoDepth - 1);
+      copyCells(undoCursors, 1, undoCursors, 0, undoDepth - 1);
       undoDepth--;
     }
-    copyChars(buffer, 0, undoTexts, undoDepth * MAX_LINE, length);
+    copyCells(buffer, 0, undoTexts, undoDepth * MAX_LINE, length);
     undoLengths[undoDepth] = length;
     undoCursors[undoDepth] = cursor;
     undoDepth++;
@@ -608,8 +608,8 @@ public final class ReadlineEditor {
   }
 
   private static void dropOldest(int[] texts, int[] lengths, int count) {
-    copyChars(texts, MAX_LINE, texts, 0, (count - 1) * MAX_LINE);
-    copyChars(lengths, 1, lengths, 0, count - 1);
+    copyCells(texts, MAX_LINE, texts, 0, (count - 1) * MAX_LINE);
+    copyCells(lengths, 1, lengths, 0, count - 1);
   }
 
   private static int slotChar(int[] texts, int[] lengths, int slot, int pos) {
@@ -655,7 +655,7 @@ public final class ReadlineEditor {
   }
 
   private void showText(int[] text, int start, int count) {
-    copyChars(text, start, display, displayLength, count);
+    copyCells(text, start, display, displayLength, count);
     displayLength += count;
   }
 
@@ -692,7 +692,7 @@ public final class ReadlineEditor {
   }
 
   // Goes upward, so a text may be copied onto itself towards the front.
-  private static void copyChars(int[] from, int fromAt, int[] to, int toAt, int count) {
+  private static void copyCells(int[] from, int fromAt, int[] to, int toAt, int count) {
     for (int i = 0; i < count; i++) {
       to[toAt + i] = from[fromAt + i];
     }

@@ -11,6 +11,7 @@ public final class EditKeysTest {
     moves();
     words();
     wordCharEdges();
+    wordsEndWithTheLine();
     deletions();
     undoGroups();
     undoCapacity();
@@ -142,6 +143,18 @@ public final class EditKeysTest {
       Probe.press(z, ReadlineEditor.KEY_HOME, ReadlineEditor.KEY_WORD_RIGHT);
       Expect.same("word right over " + code, z.info(ReadlineEditor.INFO_CURSOR), isWord ? 3 : 1);
     }
+  }
+
+  // Chars that were cut off, or that would lie past a full line, are no part of a word.
+  private static void wordsEndWithTheLine() {
+    ReadlineEditor x = fresh();
+    Probe.type(x, "abc");
+    Probe.press(x, ReadlineEditor.KEY_BACKSPACE, ReadlineEditor.KEY_HOME, ReadlineEditor.KEY_WORD_RIGHT);
+    Probe.line("word right to a shortened end", x, "ab", 2);
+    ReadlineEditor full = fresh();
+    Probe.type(full, FULL);
+    Probe.press(full, ReadlineEditor.KEY_WORD_LEFT, ReadlineEditor.KEY_WORD_RIGHT);
+    Probe.line("word right to a full end", full, FULL, 32);
   }
 
   private static void deletions() {

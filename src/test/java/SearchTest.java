@@ -6,6 +6,7 @@ public final class SearchTest {
     growingFromTheMatch();
     leastStart();
     longestQuery();
+    entriesEndWhereTheyEnd();
     older();
     olderWithoutQuery();
     shrinking();
@@ -98,6 +99,20 @@ public final class SearchTest {
     ReadlineEditor whole = searching("short");
     Probe.type(whole, "short");
     Probe.refused(whole, 's');
+  }
+
+  // A short entry in the place of a longer one, and beside another, matches in itself alone.
+  private static void entriesEndWhereTheyEnd() {
+    ReadlineEditor x = new ReadlineEditor(7, 1, 2);
+    Probe.enter(x, "abcd");
+    Probe.enter(x, "ab");
+    Probe.press(x, ReadlineEditor.KEY_SEARCH);
+    Probe.refused(x, 'c', 'd');
+    Probe.press(x, 'a', 'b');
+    Probe.refused(x, 'c');
+    ReadlineEditor full = searching("abcdefghijklmnopqrstuvwxyz012345", "6789");
+    Probe.press(full, '5');
+    Probe.refused(full, '6');
   }
 
   private static void older() {
