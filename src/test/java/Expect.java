@@ -1,8 +1,14 @@
 // Counts the answers that are not as due, and ends the test with exit code 1 if there was one.
 final class Expect {
   private static int wrong = 0;
+  private static String sentence = "";
 
   private Expect() {}
+
+  // Names the document's sentence that the checks after it hold to, so that a fault tells it.
+  static void about(String quoted) {
+    sentence = "(" + quoted + ") ";
+  }
 
   static void same(String what, long got, long want) {
     if (got != want) {
@@ -19,7 +25,7 @@ final class Expect {
   static void tell(String fault) {
     wrong++;
     if (wrong <= 50) {
-      System.out.println(fault);
+      System.out.println(sentence + fault);
     }
   }
 

@@ -6,6 +6,12 @@ final class Probe {
     Integer.MAX_VALUE - 1, Integer.MIN_VALUE + 1
   };
 
+  // Codes that are no keys, many of them a key's code once the high bits or the sign are lost.
+  static final int[] FAR_CODES = {
+    Integer.MIN_VALUE, Integer.MIN_VALUE + 1, Integer.MIN_VALUE + 97, -65536, -256, -203, -126, -97, -32, -13, -2, -1,
+    204, 255, 256, 256 + 8, 256 + 13, 256 + 97, 65536, 65536 + 97, (1 << 24) + 97, Integer.MAX_VALUE - 1, Integer.MAX_VALUE
+  };
+
   private Probe() {}
 
   interface Chars {
