@@ -388,31 +388,31 @@ public final class GetterEdgesTest {
 
   private static void nothingChanges() {
     Expect.about("Nothing changes. (every getter, in range and out of range)");
-    for (int last : Make.LASTS) {
-      ReadlineEditor x = Make.withLast(last);
-      unread(x);
-      Probe.press(x, Keys.SEARCH, 't');
-      unread(x);
-    }
-    unread(Make.line("", 0));
+    int[] lines = Keys.run("one two", Keys.ENTER, "two three", Keys.ENTER);
+    int[] busy = Keys.run(lines, "kkk", Keys.KILL_START, "j", Keys.KILL_START, "half", Keys.PREV, "+", Keys.LEFT);
+    Twins.untouchedBy("all the getters, fresh", Keys.run(), GetterEdgesTest::readAll);
+    Twins.untouchedBy("all the getters, last other", busy, GetterEdgesTest::readAll);
+    Twins.untouchedBy("all the getters, last insert", Keys.run(busy, "x"), GetterEdgesTest::readAll);
+    Twins.untouchedBy("all the getters, last kill", Keys.run(busy, Keys.KILL_BACK), GetterEdgesTest::readAll);
+    Twins.untouchedBy("all the getters, last yank", Keys.run(busy, Keys.YANK, Keys.POP), GetterEdgesTest::readAll);
+    Twins.untouchedBy("all the getters, searching", Keys.run(busy, Keys.SEARCH), GetterEdgesTest::readAll);
+    Twins.untouchedBy("all the getters, with a match", Keys.run(busy, Keys.SEARCH, "w"), GetterEdgesTest::readAll);
   }
 
-  private static void unread(ReadlineEditor x) {
-    String before = Probe.everything(x);
+  private static void readAll(ReadlineEditor x) {
     for (int a = -2; a <= 40; a++) {
-      readAll(x, a, a);
-      readAll(x, a, 0);
-      readAll(x, 0, a);
+      read(x, a, a);
+      read(x, a, 0);
+      read(x, 0, a);
     }
     for (int far : Probe.FAR) {
-      readAll(x, far, far);
-      readAll(x, far, 0);
-      readAll(x, 0, far);
+      read(x, far, far);
+      read(x, far, 0);
+      read(x, 0, far);
     }
-    Expect.same("everything after all the getters", Probe.everything(x), before);
   }
 
-  private static void readAll(ReadlineEditor x, int a, int b) {
+  private static void read(ReadlineEditor x, int a, int b) {
     x.info(a);
     x.bufferChar(a);
     x.draftChar(a);

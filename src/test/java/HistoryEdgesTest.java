@@ -265,6 +265,18 @@ public final class HistoryEdgesTest {
         Expect.same("none past them", Probe.entry(x, kept), "");
       }
     }
+    ReadlineEditor stepped = Make.lines(3, "a", "b", "c");
+    Probe.press(stepped, Keys.PREV, Keys.PREV, Keys.PREV, Keys.ENTER);
+    Probe.history("the dropped line itself, accepted again from nav = 0", stepped, "b", "c", "a");
+    Probe.press(stepped, Keys.PREV, Keys.PREV, Keys.ENTER);
+    Probe.history("accepted again from nav = 1", stepped, "c", "a", "c");
+    ReadlineEditor longest = Make.lines(8);
+    for (int i = 0; i < 9; i++) {
+      Probe.enter(longest, Make.text(31) + i);
+    }
+    for (int i = 0; i < 8; i++) {
+      Expect.same("a moved entry of 32 chars", Probe.entry(longest, i), Make.text(31) + (i + 1));
+    }
     ReadlineEditor lengths = Make.lines(2, Make.FULL, "a", Make.text(31), "b");
     Probe.history("long and short ones", lengths, Make.text(31), "b");
   }

@@ -40,7 +40,8 @@ public final class KeyEdgesTest {
     Expect.same("key(" + code + ")", answer, changed ? 1 : 0);
   }
 
-  // What is refused with the cursor at the end of the line, in a state made for it.
+  // What is refused with the cursor at the start or the end of the line, and at a history's newest end.
+  private static final int[] AT_START = {Keys.LEFT, Keys.HOME, Keys.WORD_LEFT, Keys.BACKSPACE, Keys.KILL_START, Keys.KILL_BACK};
   private static final int[] AT_END = {Keys.RIGHT, Keys.END, Keys.WORD_RIGHT, Keys.DELETE, Keys.KILL_END, Keys.KILL_FWD};
   private static final int[] ALWAYS = {Keys.CANCEL, Keys.NEXT, 0, 3, 127, 199, 204, -1, Integer.MIN_VALUE, Integer.MAX_VALUE};
 
@@ -52,6 +53,11 @@ public final class KeyEdgesTest {
     Probe.refused(x, Keys.YANK, Keys.POP, Keys.PREV, Keys.SEARCH);
     Probe.press(x, 'e');
     Expect.same("the next char begins a group", x.info(ReadlineEditor.INFO_UNDO_DEPTH), 2);
+    Probe.refused(Make.line("ab cd", 0), AT_START);
+    Probe.refused(Make.line(Make.FULL, 7), 'x', Keys.YANK, Keys.POP);
+    ReadlineEditor oldest = Make.lines(2, "a");
+    Probe.press(oldest, Keys.PREV);
+    Probe.refused(oldest, Keys.PREV, Keys.UNDO);
   }
 
   private static void refusedKeepsInsert() {
@@ -68,6 +74,12 @@ public final class KeyEdgesTest {
     Probe.refused(x, 'x');
     Probe.press(x, Keys.UNDO);
     Probe.line("one group in all", x, "", 0);
+    ReadlineEditor ring = Make.ring(2, "ab");
+    Probe.type(ring, Make.text(31));
+    Probe.refused(ring, Keys.YANK, Keys.POP);
+    ReadlineEditor oldest = Make.lines(2, "a");
+    Probe.press(oldest, Keys.PREV, 'x');
+    Probe.refused(oldest, Keys.PREV);
   }
 
   private static void refusedKeepsKill() {
@@ -80,6 +92,16 @@ public final class KeyEdgesTest {
     Probe.last("after refusals", x, ReadlineEditor.LAST_KILL);
     Probe.press(x, Keys.KILL_BACK);
     Probe.kills("the next kill is in the same chain", x, "ab cd");
+    Probe.refused(x, AT_START);
+    Probe.refused(x, AT_END);
+    ReadlineEditor start = Make.line("ab cd", 2);
+    Probe.press(start, Keys.KILL_START);
+    Probe.refused(start, AT_START);
+    Probe.press(start, Keys.KILL_END);
+    Probe.kills("and so at the start", start, "ab cd");
+    ReadlineEditor oldest = Make.lines(2, "a");
+    Probe.press(oldest, Keys.PREV, Keys.KILL_START);
+    Probe.refused(oldest, Keys.PREV);
   }
 
   private static void refusedKeepsYank() {
@@ -93,6 +115,16 @@ public final class KeyEdgesTest {
     Probe.last("after refusals", x, ReadlineEditor.LAST_YANK);
     Probe.press(x, Keys.POP);
     Probe.line("the next pop replaces the yank", x, Make.text(25) + "old", 28);
+    ReadlineEditor full = Make.ring(2, "old", "newer");
+    Probe.type(full, Make.text(27));
+    Probe.press(full, Keys.YANK);
+    Probe.refused(full, 'x', ' ', Keys.YANK);
+    Probe.press(full, Keys.POP);
+    Probe.line("and so at a full line", full, Make.text(27) + "old", 30);
+    ReadlineEditor oldest = Make.lines(2, "a");
+    Make.kill(oldest, "ab");
+    Probe.press(oldest, Keys.PREV, Keys.YANK);
+    Probe.refused(oldest, Keys.PREV);
   }
 
   private static void refusedKeepsYankIndex() {

@@ -1,3 +1,6 @@
+import java.util.ArrayList;
+import java.util.List;
+
 // Short names for the keys, so that a run of keys fits on a line.
 final class Keys {
   static final int HOME = ReadlineEditor.KEY_HOME;
@@ -28,6 +31,23 @@ final class Keys {
 
   static int[] named() {
     return NAMED.clone();
+  }
+
+  // A run of keys, out of single codes, texts to type and other runs.
+  static int[] run(Object... parts) {
+    List<Integer> all = new ArrayList<>();
+    for (Object part : parts) {
+      if (part instanceof int[]) {
+        for (int code : (int[]) part) {
+          all.add(code);
+        }
+      } else if (part instanceof Integer) {
+        all.add((Integer) part);
+      } else {
+        part.toString().chars().forEach(all::add);
+      }
+    }
+    return all.stream().mapToInt(Integer::intValue).toArray();
   }
 
   static boolean isPrintable(int code) {

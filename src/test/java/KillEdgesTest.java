@@ -194,6 +194,17 @@ public final class KillEdgesTest {
         }
       }
     }
+    for (int n = 27; n <= 29; n++) {
+      ReadlineEditor x = Make.ring(2, "Wxyz");
+      Probe.type(x, "+".repeat(n));
+      Make.place(x, 1);
+      if (n + 4 > 32) {
+        Probe.refused(x, Keys.YANK);
+      } else {
+        Probe.press(x, Keys.YANK);
+        Probe.line(n + " and 4, inside the line", x, "+Wxyz" + "+".repeat(n - 1), 5);
+      }
+    }
     ReadlineEditor whole = Make.ring(2, Make.FULL);
     Probe.press(whole, Keys.YANK);
     Probe.line("0 and 32", whole, Make.FULL, 32);

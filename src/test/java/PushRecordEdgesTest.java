@@ -38,6 +38,14 @@ public final class PushRecordEdgesTest {
     Probe.press(x, Keys.BACKSPACE);
     Expect.same("two past: oldest", levels(x)[7], "[" + Make.text(19) + "]19");
     Expect.same("two past: depth", x.info(ReadlineEditor.INFO_UNDO_DEPTH), 8);
+    ReadlineEditor longest = Make.line(Make.FULL, 32);
+    for (int i = 0; i < 6; i++) {
+      Probe.press(longest, Keys.BACKSPACE, 'A' + i);
+    }
+    for (int level = 1; level < 8; level += 2) {
+      char end = (char) ('E' - level / 2);
+      Expect.same("a moved snapshot of 32 chars", levels(longest)[level], "[" + Make.text(31) + end + "]32");
+    }
   }
 
   private static void pushTakesTheStateBeforeTheKey() {
@@ -156,6 +164,13 @@ public final class PushRecordEdgesTest {
     Probe.kills("a fourth", x, "dd", "ccc", Make.FULL);
     Make.kill(x, "e");
     Probe.kills("a fifth", x, "e", "dd", "ccc");
+    ReadlineEditor longest = Make.ring(4);
+    for (int i = 0; i < 5; i++) {
+      Make.kill(longest, Make.text(31) + i);
+    }
+    for (int i = 0; i < 4; i++) {
+      Expect.same("a moved kill of 32 chars", Probe.kill(longest, i), Make.text(31) + (4 - i));
+    }
   }
 
   private static void countGrowsBelowR() {

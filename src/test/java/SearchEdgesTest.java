@@ -102,6 +102,9 @@ public final class SearchEdgesTest {
     Probe.refused(dropped, 'b');
     Probe.press(dropped, 'd');
     found("the newest of a full history", dropped, "d", 1, 1);
+    ReadlineEditor stepped = Make.lines(3, "a", "ba", "ca");
+    Probe.press(stepped, Keys.PREV, Keys.PREV, Keys.PREV, Keys.SEARCH, 'a');
+    found("the newest, not the one at nav = 0", stepped, "a", 2, 1);
   }
 
   private static void growFromTheMatch() {
@@ -204,6 +207,9 @@ public final class SearchEdgesTest {
       Probe.press(x, Keys.SEARCH, Keys.SEARCH);
       found("the newest of " + count, x, "", count - 1, 0);
     }
+    ReadlineEditor stepped = Make.lines(3, "a", "b", "c");
+    Probe.press(stepped, Keys.PREV, Keys.PREV, Keys.PREV, Keys.SEARCH, Keys.SEARCH);
+    found("the newest, not the one before nav = 0", stepped, "", 2, 0);
   }
 
   private static void olderSkipsTheMatch() {
@@ -289,6 +295,11 @@ public final class SearchEdgesTest {
       Probe.press(x, Keys.BACKSPACE);
       found(size + " chars", x, "abcdefghijklmnop".substring(0, size), 0, starts[size]);
     }
+    ReadlineEditor newer = Make.searching(3, "ab", "xaxab", "zz");
+    Probe.press(newer, 'a', 'b');
+    found("m = 1", newer, "ab", 1, 3);
+    Probe.press(newer, Keys.BACKSPACE);
+    found("the place is the one in h[1]", newer, "a", 1, 1);
   }
 
   private static void shrinkToNothing() {
