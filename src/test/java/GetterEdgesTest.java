@@ -397,9 +397,16 @@ public final class GetterEdgesTest {
     Twins.untouchedBy("all the getters, last yank", Keys.run(busy, Keys.YANK, Keys.POP), GetterEdgesTest::readAll);
     Twins.untouchedBy("all the getters, searching", Keys.run(busy, Keys.SEARCH), GetterEdgesTest::readAll);
     Twins.untouchedBy("all the getters, with a match", Keys.run(busy, Keys.SEARCH, "w"), GetterEdgesTest::readAll);
+    for (int width = 4; width <= 16; width++) {
+      ReadlineEditor x = new ReadlineEditor(width, 3, 3);
+      readAll(x);
+      Probe.press(x, busy);
+      readAll(x);
+    }
   }
 
   private static void readAll(ReadlineEditor x) {
+    String before = Probe.everything(x);
     for (int a = -2; a <= 40; a++) {
       read(x, a, a);
       read(x, a, 0);
@@ -410,6 +417,7 @@ public final class GetterEdgesTest {
       read(x, far, 0);
       read(x, 0, far);
     }
+    Expect.same("everything after all the getters", Probe.everything(x), before);
   }
 
   private static void read(ReadlineEditor x, int a, int b) {

@@ -26,7 +26,7 @@ final class Twins {
       ReadlineEditor touched = run(start);
       ReadlineEditor other = run(start);
       touch.on(touched);
-      Expect.same("everything after " + what, Probe.everything(touched), Probe.everything(other));
+      // The other one is not even read before its key, as reading is a touch too.
       Expect.same("key(" + code + ") after " + what, touched.key(code), other.key(code));
       Expect.same("everything after " + what + " and key(" + code + ")", Probe.everything(touched), Probe.everything(other));
     }
