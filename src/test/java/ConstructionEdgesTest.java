@@ -4,6 +4,8 @@ public final class ConstructionEdgesTest {
     Integer.MIN_VALUE, Integer.MIN_VALUE + 1, -1000, -1, 0, 1, 1000, Integer.MAX_VALUE - 1, Integer.MAX_VALUE
   };
 
+  private static final int[] WIDTHS = {Integer.MIN_VALUE, 3, 4, 5, 15, 16, 17, Integer.MAX_VALUE};
+
   public static void main(String[] args) {
     anyInts();
     widthClamped();
@@ -19,6 +21,7 @@ public final class ConstructionEdgesTest {
     noSearch();
     nothingAccepted();
     freshScreen();
+    otherCells();
     Expect.finish();
   }
 
@@ -175,14 +178,25 @@ public final class ConstructionEdgesTest {
   }
 
   private static void freshScreen() {
-    Expect.about("The screen then shows D = '>' ' ' with the cursor at row 0, column 2. All other cells hold 32.");
-    int[] widths = {Integer.MIN_VALUE, 3, 4, 5, 15, 16, 17, Integer.MAX_VALUE};
-    for (int width : widths) {
+    Expect.about("The screen then shows D = '>' ' ' with the cursor at row 0, column 2.");
+    for (int width : WIDTHS) {
       ReadlineEditor x = new ReadlineEditor(width, 1, 1);
       Expect.same("display", Probe.display(x), "> ");
-      Expect.same("screen", Probe.screen(x), Probe.padded("> ", 16 * clamped(width, 4, 16)));
+      Expect.same("cell (0, 0)", x.screenChar(0, 0), '>');
+      Expect.same("cell (0, 1)", x.screenChar(0, 1), ' ');
       Expect.same("row", x.screenCursorRow(), 0);
       Expect.same("column", x.screenCursorCol(), 2);
+    }
+  }
+
+  private static void otherCells() {
+    Expect.about("All other cells hold 32.");
+    for (int width : WIDTHS) {
+      ReadlineEditor x = new ReadlineEditor(width, 1, 1);
+      for (int i = 2; i < 16 * clamped(width, 4, 16); i++) {
+        int columns = clamped(width, 4, 16);
+        Expect.same("cell " + i + " at " + width, x.screenChar(i / columns, i % columns), 32);
+      }
     }
   }
 }

@@ -14,6 +14,7 @@ public final class HistoryEdgesTest {
     enterOfAnEmptyLine();
     enterAppends();
     enterAtAFullHistory();
+    enterGrowsTheCount();
     enterResets();
     enterKeepsTheRest();
     searchWithoutHistory();
@@ -252,13 +253,12 @@ public final class HistoryEdgesTest {
   }
 
   private static void enterAtAFullHistory() {
-    Expect.about("If hc = H at that point, h[0] is dropped first and index i of the others becomes i-1. So hc grows by one unless it was already H.");
+    Expect.about("If hc = H at that point, h[0] is dropped first and index i of the others becomes i-1.");
     for (int cap = 1; cap <= 8; cap++) {
       ReadlineEditor x = Make.lines(cap);
       for (int count = 1; count <= cap + 3; count++) {
         Probe.enter(x, "line" + "+".repeat(count));
         int kept = Math.min(count, cap);
-        Expect.same("hc", x.info(ReadlineEditor.INFO_HISTORY_COUNT), kept);
         for (int i = 0; i < kept; i++) {
           Expect.same("entry " + i + " of " + kept, Probe.entry(x, i), "line" + "+".repeat(count - kept + 1 + i));
         }
@@ -279,6 +279,17 @@ public final class HistoryEdgesTest {
     }
     ReadlineEditor lengths = Make.lines(2, Make.FULL, "a", Make.text(31), "b");
     Probe.history("long and short ones", lengths, Make.text(31), "b");
+  }
+
+  private static void enterGrowsTheCount() {
+    Expect.about("So hc grows by one unless it was already H.");
+    for (int cap = 1; cap <= 8; cap++) {
+      ReadlineEditor x = Make.lines(cap);
+      for (int count = 1; count <= cap + 3; count++) {
+        Probe.enter(x, "line");
+        Expect.same("hc after " + count + " at H = " + cap, x.info(ReadlineEditor.INFO_HISTORY_COUNT), Math.min(count, cap));
+      }
+    }
   }
 
   private static void enterResets() {

@@ -19,6 +19,7 @@ public final class KillEdgesTest {
     popShortensAFullLine();
     popReplaces();
     popPushesNothing();
+    popKeepsLast();
     popKeepsTheRing();
     whoPushes();
     whoKills();
@@ -342,7 +343,7 @@ public final class KillEdgesTest {
   }
 
   private static void popPushesNothing() {
-    Expect.about("There is no PUSH, so a yank and its pops form one undo group. last stays LAST_YANK.");
+    Expect.about("There is no PUSH, so a yank and its pops form one undo group.");
     ReadlineEditor x = Make.ring(3, "c", "bb", "a");
     Probe.type(x, "xy");
     Probe.press(x, Keys.LEFT);
@@ -350,7 +351,6 @@ public final class KillEdgesTest {
     Probe.press(x, Keys.YANK);
     for (int pops = 0; pops <= 7; pops++) {
       Expect.same("depth after " + pops, depth(x), before + 1);
-      Probe.last("pop", x, ReadlineEditor.LAST_YANK);
       Probe.press(x, Keys.POP);
     }
     Probe.press(x, Keys.UNDO);
@@ -362,6 +362,21 @@ public final class KillEdgesTest {
     String levels = Parts.undo(full);
     Probe.press(full, Keys.POP);
     Expect.same("a pop at a full stack drops nothing", Parts.undo(full), levels);
+  }
+
+  private static void popKeepsLast() {
+    Expect.about("last stays LAST_YANK.");
+    for (int count = 1; count <= 4; count++) {
+      ReadlineEditor x = Make.ring(4);
+      for (int i = 0; i < count; i++) {
+        Make.kill(x, "k" + i);
+      }
+      Probe.press(x, Keys.YANK);
+      for (int pops = 0; pops < 6; pops++) {
+        Probe.press(x, Keys.POP);
+        Probe.last("after a pop", x, ReadlineEditor.LAST_YANK);
+      }
+    }
   }
 
   private static void popKeepsTheRing() {

@@ -16,7 +16,8 @@ public final class PictureEdgesTest {
     searchCursorAtTheEndOfARow();
     screenRange();
     noCellOfAnotherRow();
-    cursorRange();
+    cursorColumnRange();
+    cursorRowRange();
     pictureAfterRefusal();
     readingChangesNothing();
     Expect.finish();
@@ -290,8 +291,21 @@ public final class PictureEdgesTest {
     }
   }
 
-  private static void cursorRange() {
-    Expect.about("0 <= screenCursorCol() < W. 0 <= screenCursorRow() < SCREEN_ROWS.");
+  private static void cursorColumnRange() {
+    Expect.about("0 <= screenCursorCol() < W.");
+    for (int width = 4; width <= 16; width++) {
+      ReadlineEditor x = typed(width, Make.FULL);
+      Make.place(x, width - 3);
+      Expect.same("greatest column at " + width, x.screenCursorCol(), width - 1);
+      Probe.press(x, Keys.RIGHT);
+      Expect.same("one past it at " + width, x.screenCursorCol(), 0);
+      Probe.press(x, Keys.RIGHT);
+      Expect.same("two past it at " + width, x.screenCursorCol(), 1);
+    }
+  }
+
+  private static void cursorRowRange() {
+    Expect.about("0 <= screenCursorRow() < SCREEN_ROWS.");
     for (int width = 4; width <= 16; width++) {
       ReadlineEditor x = typed(width, "");
       cursorAt("least index at " + width, x, 2 / width, 2 % width);

@@ -21,8 +21,10 @@ public final class TermsEdgesTest {
     matchLimits();
     acceptedCounts();
     wordChars();
-    wordLeftBounds();
-    wordRightBounds();
+    leftOverOtherChars();
+    leftOverWordChars();
+    rightOverOtherChars();
+    rightOverWordChars();
     Expect.finish();
   }
 
@@ -334,43 +336,63 @@ public final class TermsEdgesTest {
     Probe.line("from " + from + " by " + code, x, text, to);
   }
 
-  private static void wordLeftBounds() {
-    Expect.about("While t > 0 and B[t-1] is not a word char, t decreases by 1. Then, while t > 0 and B[t-1] is a word char");
+  private static void leftOverOtherChars() {
+    Expect.about("While t > 0 and B[t-1] is not a word char, t decreases by 1.");
     move("", 0, Keys.WORD_LEFT, 0);
-    move("a", 0, Keys.WORD_LEFT, 0);
-    move("a", 1, Keys.WORD_LEFT, 0);
-    move("-", 1, Keys.WORD_LEFT, 0);
     move("-", 0, Keys.WORD_LEFT, 0);
+    move("-", 1, Keys.WORD_LEFT, 0);
     move("--", 2, Keys.WORD_LEFT, 0);
-    move("-a", 2, Keys.WORD_LEFT, 1);
-    move("-a", 1, Keys.WORD_LEFT, 0);
+    move("--", 1, Keys.WORD_LEFT, 0);
     move("a-", 2, Keys.WORD_LEFT, 0);
+    move("a--", 3, Keys.WORD_LEFT, 0);
     move("b a-", 4, Keys.WORD_LEFT, 2);
-    move("b a-", 2, Keys.WORD_LEFT, 0);
-    move("bb aa", 4, Keys.WORD_LEFT, 3);
-    move(Make.FULL, 32, Keys.WORD_LEFT, 0);
+    move(" ".repeat(31), 31, Keys.WORD_LEFT, 0);
     move(" ".repeat(32), 32, Keys.WORD_LEFT, 0);
     move("a" + " ".repeat(31), 32, Keys.WORD_LEFT, 0);
+  }
+
+  private static void leftOverWordChars() {
+    Expect.about("Then, while t > 0 and B[t-1] is a word char, t decreases by 1.");
+    move("a", 0, Keys.WORD_LEFT, 0);
+    move("a", 1, Keys.WORD_LEFT, 0);
+    move("ab", 1, Keys.WORD_LEFT, 0);
+    move("-a", 2, Keys.WORD_LEFT, 1);
+    move("-a", 1, Keys.WORD_LEFT, 0);
+    move("b a-", 3, Keys.WORD_LEFT, 2);
+    move("b a-", 2, Keys.WORD_LEFT, 0);
+    move("bb aa", 4, Keys.WORD_LEFT, 3);
+    move("bb aa", 5, Keys.WORD_LEFT, 3);
+    move(Make.FULL, 32, Keys.WORD_LEFT, 0);
     move(" " + Make.text(31), 32, Keys.WORD_LEFT, 1);
   }
 
-  private static void wordRightBounds() {
-    Expect.about("While t < n and B[t] is not a word char, t increases by 1. Then, while t < n and B[t] is a word char");
+  private static void rightOverOtherChars() {
+    Expect.about("While t < n and B[t] is not a word char, t increases by 1.");
     move("", 0, Keys.WORD_RIGHT, 0);
-    move("a", 1, Keys.WORD_RIGHT, 1);
-    move("a", 0, Keys.WORD_RIGHT, 1);
-    move("-", 0, Keys.WORD_RIGHT, 1);
     move("-", 1, Keys.WORD_RIGHT, 1);
+    move("-", 0, Keys.WORD_RIGHT, 1);
     move("--", 0, Keys.WORD_RIGHT, 2);
-    move("a-", 0, Keys.WORD_RIGHT, 1);
-    move("a-", 1, Keys.WORD_RIGHT, 2);
+    move("--", 1, Keys.WORD_RIGHT, 2);
     move("-a", 0, Keys.WORD_RIGHT, 2);
+    move("--a", 0, Keys.WORD_RIGHT, 3);
     move("-a b", 0, Keys.WORD_RIGHT, 2);
-    move("-a b", 2, Keys.WORD_RIGHT, 4);
-    move("aa bb", 1, Keys.WORD_RIGHT, 2);
-    move(Make.FULL, 0, Keys.WORD_RIGHT, 32);
+    move(" ".repeat(31), 0, Keys.WORD_RIGHT, 31);
     move(" ".repeat(32), 0, Keys.WORD_RIGHT, 32);
     move(" ".repeat(31) + "a", 0, Keys.WORD_RIGHT, 32);
+  }
+
+  private static void rightOverWordChars() {
+    Expect.about("Then, while t < n and B[t] is a word char, t increases by 1.");
+    move("a", 1, Keys.WORD_RIGHT, 1);
+    move("a", 0, Keys.WORD_RIGHT, 1);
+    move("ab", 1, Keys.WORD_RIGHT, 2);
+    move("a-", 0, Keys.WORD_RIGHT, 1);
+    move("a-", 1, Keys.WORD_RIGHT, 2);
+    move("-a b", 1, Keys.WORD_RIGHT, 2);
+    move("-a b", 2, Keys.WORD_RIGHT, 4);
+    move("aa bb", 1, Keys.WORD_RIGHT, 2);
+    move("aa bb", 0, Keys.WORD_RIGHT, 2);
+    move(Make.FULL, 0, Keys.WORD_RIGHT, 32);
     move(Make.text(31) + " ", 0, Keys.WORD_RIGHT, 31);
   }
 }
