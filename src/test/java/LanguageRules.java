@@ -92,7 +92,6 @@ final class LanguageRules extends TreeScanner<Void, Void> {
 
   private static Map<Tree.Kind, Integer> ruledOut() {
     Map<Tree.Kind, Integer> rules = new EnumMap<>(Tree.Kind.class);
-    rules.put(Tree.Kind.PARAMETERIZED_TYPE, 2);
     rules.put(Tree.Kind.STRING_LITERAL, 2);
     rules.put(Tree.Kind.FLOAT_LITERAL, 2);
     rules.put(Tree.Kind.DOUBLE_LITERAL, 2);
@@ -128,9 +127,6 @@ final class LanguageRules extends TreeScanner<Void, Void> {
   public Void visitCompilationUnit(CompilationUnitTree tree, Void none) {
     if (tree.getPackage() != null || tree.getTypeDecls().size() != 1) {
       tell(1, tree, "not one class without a package line");
-    }
-    if (!tree.getImports().isEmpty()) {
-      tell(3, tree, "an import");
     }
     return super.visitCompilationUnit(tree, none);
   }

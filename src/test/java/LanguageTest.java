@@ -24,11 +24,13 @@ public final class LanguageTest {
   }
 
   private static void allowed() throws IOException {
-    keeps("private static final int N = 4; private final int[] cells = new int[N]; private final char[] a = new char[1];");
+    keeps("private static final int N = 4; private static final long L = 1L;");
+    keeps("private static final int N = 4; private final int[] a = new int[N]; private final char[] b = new char[1];");
     keeps("private int f(int[] c) { int[] d = c; c[0] = 1; return c.length + d[0]; }");
     keeps("private int f(int n) { int t = 0; do { t++; } while (t < n); return n > 0 ? (int) 3L : t; }");
     keeps("private int f(int n) { out: for (int i = 0; i < n; i++) { while (n > 0) { n -= 2; break out; } } return n; }");
-    keeps("private int f(int a, int b, int c, int d, int e, int g, int h) { return this.g(a) + g(b); } private int g(int a) { return a; }");
+    keeps("private int f(int a, int b, int c, int d, int e, int g, int h) { return a; }");
+    keeps("private int f(int a) { return this.g(a) + g(1); } private int g(int a) { return a; }");
     keeps(chain(6));
     keeps(manyFields(40));
     keeps(longMethod(60));
@@ -59,6 +61,7 @@ public final class LanguageTest {
     breaks(2, "private String a;");
     breaks(2, "private Object f() { return this; }");
     breaks(2, "private int[][] a;");
+    breaks(2, "private B<C> a;");
     breaks(2, "private void f(Integer a) {}");
     breaks(2, "private void f() { var a = 1; }");
     breaks(2, "private int f() { return \"a\".length(); }");
@@ -87,6 +90,7 @@ public final class LanguageTest {
     breaks(4, "private int[] a = new int[4]; private void f(int[] b) { this.a = b; }");
     breaks(4, "private boolean f(int[] a, int[] b) { return a == b; }");
     breaks(4, "private boolean f(int[] a) { return null != a; }");
+    breaks(4, "private void f() { g(null); } private void g(int[] a) {}");
     breaks(4, "private void f() { new A(); }");
   }
 
@@ -94,7 +98,8 @@ public final class LanguageTest {
     breaks(5, "private static int a = 1;");
     breaks(5, "private static final boolean A = true;");
     breaks(5, "private static final int[] A = new int[4];");
-    breaks(5, "private static final int A; static { A = 1; }");
+    breaks(5, "private static final int A;");
+    breaks(5, "private static final int A = 1; static { }");
   }
 
   private static void statements() throws IOException {
